@@ -54,7 +54,8 @@ public final class ShipLanterns {
 
     // ---- boxes
 
-    public int addBox(int parent, int rating, int other, boolean crossed) {
+    public int addBox(int parent, int rating, int other, boolean crossed)
+            throws IndexOutOfBoundsException, IllegalArgumentException, IllegalStateException {
         if (!isBox(parent)) {
             throw new IndexOutOfBoundsException("there is no such parent");
         }
@@ -70,7 +71,7 @@ public final class ShipLanterns {
         return ship.cables.boxes - 1;
     }
 
-    public int toggle(int box) {
+    public int toggle(int box) throws IndexOutOfBoundsException {
         if (!isFedBox(box)) {
             throw new IndexOutOfBoundsException("no cable feeds such a box");
         }
@@ -80,7 +81,7 @@ public final class ShipLanterns {
         return oneIf(ship.cables.closed[box]);
     }
 
-    public int cross(int box) {
+    public int cross(int box) throws IndexOutOfBoundsException {
         if (!isFedBox(box)) {
             throw new IndexOutOfBoundsException("no cable feeds such a box");
         }
@@ -90,7 +91,8 @@ public final class ShipLanterns {
         return survey.burningLanterns;
     }
 
-    public int replace(int box, int terminal, int rating) {
+    public int replace(int box, int terminal, int rating)
+            throws IndexOutOfBoundsException, IllegalArgumentException, IllegalStateException {
         if (!isFedBox(box) || !isTerminal(terminal)) {
             throw new IndexOutOfBoundsException("there is no such fuse");
         }
@@ -109,7 +111,7 @@ public final class ShipLanterns {
         return oneIf(!ship.cables.blown[fuse]);
     }
 
-    public int buyFuses(int many) {
+    public int buyFuses(int many) throws IllegalArgumentException, IllegalStateException {
         if (many < 1 || many > MAX_BOUGHT) {
             throw new IllegalArgumentException("1 to 20 fuses are bought at once");
         }
@@ -123,7 +125,8 @@ public final class ShipLanterns {
 
     // ---- lanterns and faults
 
-    public int hang(int box, int units, boolean particular) {
+    public int hang(int box, int units, boolean particular)
+            throws IndexOutOfBoundsException, IllegalArgumentException, IllegalStateException {
         if (!isBox(box)) {
             throw new IndexOutOfBoundsException("there is no such box");
         }
@@ -139,7 +142,7 @@ public final class ShipLanterns {
         return ship.lanterns.many - 1;
     }
 
-    public int takeDown(int lantern) {
+    public int takeDown(int lantern) throws IndexOutOfBoundsException {
         if (!isLantern(lantern)) {
             throw new IndexOutOfBoundsException("there is no such lantern");
         }
@@ -150,7 +153,8 @@ public final class ShipLanterns {
         return burned;
     }
 
-    public int fault(int box, int terminal, int strength) {
+    public int fault(int box, int terminal, int strength)
+            throws IndexOutOfBoundsException, IllegalArgumentException, IllegalStateException {
         if (!isBox(box) || !isTerminal(terminal)) {
             throw new IndexOutOfBoundsException("there is no such terminal");
         }
@@ -165,7 +169,7 @@ public final class ShipLanterns {
         return settle(ship, survey);
     }
 
-    public int mend(int fault) {
+    public int mend(int fault) throws IndexOutOfBoundsException {
         if (!isFault(fault)) {
             throw new IndexOutOfBoundsException("there is no such fault");
         }
@@ -176,7 +180,7 @@ public final class ShipLanterns {
         return strength;
     }
 
-    public int burn(int hours) {
+    public int burn(int hours) throws IllegalArgumentException, IllegalStateException {
         if (hours < 1 || hours > MAX_HOURS_AT_ONCE) {
             throw new IllegalArgumentException("1 to 1000 hours pass at once");
         }
@@ -194,7 +198,7 @@ public final class ShipLanterns {
 
     // ---- texts
 
-    public int append(int code) {
+    public int append(int code) throws IllegalArgumentException, IllegalStateException {
         if (code < FIRST_CODE || code > LAST_CODE) {
             throw new IllegalArgumentException("a character code is 33 to 126");
         }
@@ -216,7 +220,7 @@ public final class ShipLanterns {
         return readSigns();
     }
 
-    public int load() {
+    public int load() throws IllegalArgumentException {
         if (readSigns() < length || !reader.isComplete()) {
             throw new IllegalArgumentException("the buffer is not a complete plan");
         }
@@ -226,7 +230,7 @@ public final class ShipLanterns {
         return added;
     }
 
-    public int undo() {
+    public int undo() throws IllegalStateException {
         if (history.many == 0) {
             throw new IllegalStateException("there is no saved state");
         }
@@ -237,7 +241,7 @@ public final class ShipLanterns {
 
     // ---- what there is
 
-    public int box(int box, int what) {
+    public int box(int box, int what) throws IndexOutOfBoundsException, IllegalArgumentException {
         if (!isBox(box)) {
             throw new IndexOutOfBoundsException("there is no such box");
         }
@@ -247,7 +251,7 @@ public final class ShipLanterns {
         return boxProperty(box, what);
     }
 
-    public int terminal(int box, int terminal, int what) {
+    public int terminal(int box, int terminal, int what) throws IndexOutOfBoundsException, IllegalArgumentException {
         if (!isBox(box) || !isTerminal(terminal)) {
             throw new IndexOutOfBoundsException("there is no such terminal");
         }
@@ -257,7 +261,7 @@ public final class ShipLanterns {
         return terminalProperty(box, terminal, what);
     }
 
-    public int lantern(int lantern, int what) {
+    public int lantern(int lantern, int what) throws IndexOutOfBoundsException, IllegalArgumentException {
         if (!isLantern(lantern)) {
             throw new IndexOutOfBoundsException("there is no such lantern");
         }
@@ -267,7 +271,7 @@ public final class ShipLanterns {
         return lanternProperty(lantern, what);
     }
 
-    public int faultAt(int fault, int what) {
+    public int faultAt(int fault, int what) throws IndexOutOfBoundsException, IllegalArgumentException {
         if (!isFault(fault)) {
             throw new IndexOutOfBoundsException("there is no such fault");
         }
@@ -277,7 +281,7 @@ public final class ShipLanterns {
         return faultProperty(fault, what);
     }
 
-    public int count(int what) {
+    public int count(int what) throws IllegalArgumentException {
         if (what < 0 || what >= COUNTS) {
             throw new IllegalArgumentException("the counts are 0 to 11");
         }
@@ -286,21 +290,22 @@ public final class ShipLanterns {
 
     // ---- what would be; nothing is changed
 
-    public int lamp(int pole) {
+    public int lamp(int pole) throws IndexOutOfBoundsException {
         if (!isPole(pole)) {
             throw new IndexOutOfBoundsException("there is no such pole");
         }
         return survey.lampOf(pole);
     }
 
-    public int locate(int pole) {
+    public int locate(int pole) throws IndexOutOfBoundsException {
         if (!isPole(pole)) {
             throw new IndexOutOfBoundsException("there is no such pole");
         }
         return boxesChangingLamp(pole);
     }
 
-    public int ifFault(int box, int terminal, int strength, int what) {
+    public int ifFault(int box, int terminal, int strength, int what)
+            throws IndexOutOfBoundsException, IllegalArgumentException {
         if (!isBox(box) || !isTerminal(terminal)) {
             throw new IndexOutOfBoundsException("there is no such terminal");
         }
@@ -320,14 +325,14 @@ public final class ShipLanterns {
         }
     }
 
-    public int ifToggled(int box) {
+    public int ifToggled(int box) throws IndexOutOfBoundsException {
         if (!isFedBox(box)) {
             throw new IndexOutOfBoundsException("no cable feeds such a box");
         }
         return burningIfToggled(box);
     }
 
-    public int neededRating(int box, int terminal) {
+    public int neededRating(int box, int terminal) throws IndexOutOfBoundsException {
         if (!isFedBox(box) || !isTerminal(terminal)) {
             throw new IndexOutOfBoundsException("there is no such fuse");
         }

@@ -8,12 +8,36 @@ import java.util.TreeSet;
 /** The class has the document's face, and beside it nothing that is not private. */
 public final class FaceTest {
     private static final String[] METHODS = {
-        "int addBox(int, int, int, boolean)", "int toggle(int)", "int cross(int)", "int replace(int, int, int)",
-        "int buyFuses(int)", "int hang(int, int, boolean)", "int takeDown(int)", "int fault(int, int, int)",
-        "int mend(int)", "int burn(int)", "int append(int)", "int clearBuffer()", "int firstError()", "int load()",
-        "int undo()", "int box(int, int)", "int terminal(int, int, int)", "int lantern(int, int)",
-        "int faultAt(int, int)", "int count(int)", "int lamp(int)", "int locate(int)",
-        "int ifFault(int, int, int, int)", "int ifToggled(int)", "int neededRating(int, int)", "double lossShare()",
+        "int addBox(int, int, int, boolean)"
+            + " throws IndexOutOfBoundsException, IllegalArgumentException, IllegalStateException",
+        "int toggle(int) throws IndexOutOfBoundsException",
+        "int cross(int) throws IndexOutOfBoundsException",
+        "int replace(int, int, int)"
+            + " throws IndexOutOfBoundsException, IllegalArgumentException, IllegalStateException",
+        "int buyFuses(int) throws IllegalArgumentException, IllegalStateException",
+        "int hang(int, int, boolean)"
+            + " throws IndexOutOfBoundsException, IllegalArgumentException, IllegalStateException",
+        "int takeDown(int) throws IndexOutOfBoundsException",
+        "int fault(int, int, int)"
+            + " throws IndexOutOfBoundsException, IllegalArgumentException, IllegalStateException",
+        "int mend(int) throws IndexOutOfBoundsException",
+        "int burn(int) throws IllegalArgumentException, IllegalStateException",
+        "int append(int) throws IllegalArgumentException, IllegalStateException",
+        "int clearBuffer()",
+        "int firstError()",
+        "int load() throws IllegalArgumentException",
+        "int undo() throws IllegalStateException",
+        "int box(int, int) throws IndexOutOfBoundsException, IllegalArgumentException",
+        "int terminal(int, int, int) throws IndexOutOfBoundsException, IllegalArgumentException",
+        "int lantern(int, int) throws IndexOutOfBoundsException, IllegalArgumentException",
+        "int faultAt(int, int) throws IndexOutOfBoundsException, IllegalArgumentException",
+        "int count(int) throws IllegalArgumentException",
+        "int lamp(int) throws IndexOutOfBoundsException",
+        "int locate(int) throws IndexOutOfBoundsException",
+        "int ifFault(int, int, int, int) throws IndexOutOfBoundsException, IllegalArgumentException",
+        "int ifToggled(int) throws IndexOutOfBoundsException",
+        "int neededRating(int, int) throws IndexOutOfBoundsException",
+        "double lossShare()",
         "long digest()"
     };
 
@@ -53,7 +77,12 @@ public final class FaceTest {
     }
 
     private static String said(Method method) {
+        StringBuilder thrown = new StringBuilder();
+        for (Class<?> kind : method.getExceptionTypes()) {
+            thrown.append(thrown.length() == 0 ? " throws " : ", ").append(kind.getSimpleName());
+        }
         String types = Arrays.toString(method.getParameterTypes());
-        return method.getReturnType() + " " + method.getName() + "(" + types.substring(1, types.length() - 1) + ")";
+        return method.getReturnType() + " " + method.getName() + "(" + types.substring(1, types.length() - 1) + ")"
+                + thrown;
     }
 }

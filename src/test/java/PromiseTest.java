@@ -26,6 +26,7 @@ public final class PromiseTest {
         loadRefused();
         undo();
         undoOfEach();
+        undoOfBoxes();
         box();
         terminal();
         lantern();
@@ -242,6 +243,15 @@ public final class PromiseTest {
         due("terminal(0, 0, 2)", ship.terminal(0, 0, 2), 3);
         counts(ship, "behind three", 2, 1, 1, 0, 0, 0, 10, 0, 0, 0, 0, 4);
         thrown(ship, "takeDown(1)", INDEX, () -> ship.takeDown(1));
+        ShipLanterns full = new ShipLanterns();
+        for (int number = 0; number < 16; number++) {
+            full.hang(0, 1 + number % 9, number % 2 == 1);
+        }
+        due("takeDown(0) of 16", full.takeDown(0), 1);
+        due("takeDown(14) of 15", full.takeDown(14), 1);
+        for (int number = 0; number < 14; number++) {
+            lanternIs(full, number, 0, 1 + (number + 1) % 9, (number + 1) % 2, 0);
+        }
     }
 
     private static void fault() {
@@ -481,6 +491,21 @@ public final class PromiseTest {
             due("count(11) behind change " + i, ship.count(11), 2);
             due("undo() of change " + i, ship.undo(), 1);
             due("digest() behind undo() of change " + i, ship.digest(), before);
+        }
+    }
+
+    /** A box that comes again is a new one: nothing of the one that was undone is left. */
+    private static void undoOfBoxes() {
+        ShipLanterns ship = new ShipLanterns();
+        for (int terminal = 0; terminal < 2; terminal++) {
+            load(ship, terminal == 0 ? "0%5,60;1*9" : "0%60,5;1*9");
+            due("terminal(1, " + terminal + ", 4)", ship.terminal(1, terminal, 4), 1);
+            ship.undo();
+            ship.addBox(0, 30, 31, false);
+            boxIs(ship, 1, 0, 0, 1, 1, 0, 0, 0);
+            terminalIs(ship, 1, 0, 0, 1, 0, 30, 0, 0);
+            terminalIs(ship, 1, 1, 1, 1, 0, 31, 0, 0);
+            ship.undo();
         }
     }
 

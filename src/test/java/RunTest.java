@@ -55,9 +55,14 @@ public final class RunTest {
         return (int) ((chance >>> 33) % below);
     }
 
-    /** Mostly in range, at times just outside. */
+    /** Mostly in range, at times just outside, seldom far away. */
     private int around(int least, int most) {
-        return chance(25) == 0 ? (chance(2) == 0 ? least - 1 : most + 1) : least + chance(most - least + 1);
+        switch (chance(100)) {
+            case 0: case 1: return least - 1;
+            case 2: case 3: return most + 1;
+            case 4: return chance(2) == 0 ? Integer.MIN_VALUE : Integer.MAX_VALUE;
+            default: return least + chance(most - least + 1);
+        }
     }
 
     private int someBox() {
