@@ -1,12 +1,7 @@
 /** Each promise of the document by answers found by hand: ordinary calls, the edges it names, and wrong calls. */
-public final class PromiseTest {
-    private static final Class<IndexOutOfBoundsException> INDEX = IndexOutOfBoundsException.class;
-    private static final Class<IllegalArgumentException> ARGUMENT = IllegalArgumentException.class;
-    private static final Class<IllegalStateException> STATE = IllegalStateException.class;
-
-    private static final Check CHECK = new Check("PromiseTest");
-
+public final class PromiseTest extends ShipCheck {
     public static void main(String[] args) {
+        begin("PromiseTest");
         newObject();
         addBox();
         toggle();
@@ -40,66 +35,7 @@ public final class PromiseTest {
         lossShare();
         digest();
         digestOfAll();
-        CHECK.end();
-    }
-
-    private static void due(String call, long got, long want) {
-        CHECK.due(call, got, want);
-    }
-
-    /** The call throws, and nothing is changed by it. */
-    private static void thrown(ShipLanterns ship, String call, Class<? extends RuntimeException> kind, Runnable run) {
-        long before = ship.digest();
-        CHECK.dueThrow(call, kind, run);
-        due("digest() behind " + call, ship.digest(), before);
-    }
-
-    private static void type(ShipLanterns ship, String text) {
-        for (char sign : text.toCharArray()) {
-            ship.append(sign);
-        }
-    }
-
-    private static int load(ShipLanterns ship, String plan) {
-        type(ship, plan);
-        return ship.load();
-    }
-
-    private static ShipLanterns planned(String plan) {
-        ShipLanterns ship = new ShipLanterns();
-        load(ship, plan);
-        return ship;
-    }
-
-    private static void counts(ShipLanterns ship, String when, int... wants) {
-        for (int what = 0; what < wants.length; what++) {
-            due("count(" + what + ") " + when, ship.count(what), wants[what]);
-        }
-    }
-
-    private static void boxIs(ShipLanterns ship, int box, int... wants) {
-        for (int what = 0; what < wants.length; what++) {
-            due("box(" + box + ", " + what + ")", ship.box(box, what), wants[what]);
-        }
-    }
-
-    private static void terminalIs(ShipLanterns ship, int box, int terminal, int... wants) {
-        for (int what = 0; what < wants.length; what++) {
-            due("terminal(" + box + ", " + terminal + ", " + what + ")", ship.terminal(box, terminal, what),
-                    wants[what]);
-        }
-    }
-
-    private static void lanternIs(ShipLanterns ship, int lantern, int... wants) {
-        for (int what = 0; what < wants.length; what++) {
-            due("lantern(" + lantern + ", " + what + ")", ship.lantern(lantern, what), wants[what]);
-        }
-    }
-
-    private static void faultIs(ShipLanterns ship, int fault, int... wants) {
-        for (int what = 0; what < wants.length; what++) {
-            due("faultAt(" + fault + ", " + what + ")", ship.faultAt(fault, what), wants[what]);
-        }
+        check.end();
     }
 
     private static void newObject() {
@@ -110,7 +46,7 @@ public final class PromiseTest {
         terminalIs(ship, 0, 0, 0, 1, 0, -1, -1, 0);
         terminalIs(ship, 0, 1, 1, 1, 0, -1, -1, 0);
         due("clearBuffer() of a new object", ship.clearBuffer(), 0);
-        CHECK.dueThrow("undo() of a new object", STATE, ship::undo);
+        check.dueThrow("undo() of a new object", STATE, ship::undo);
     }
 
     private static void addBox() {
@@ -392,7 +328,7 @@ public final class PromiseTest {
 
     private static void load() {
         ShipLanterns ship = new ShipLanterns();
-        CHECK.dueThrow("load() of nothing", ARGUMENT, ship::load);
+        check.dueThrow("load() of nothing", ARGUMENT, ship::load);
         String[] incomplete = {
             "0", "0>", "0>5", "0>5,", "0>5,5;", "0*", "0!", "0#", "0#1", "0#1,", "0*5;1", "00", "0*0", "0*5*5",
             "0>5;", "0>5;1*1", "0#1;0*1"
@@ -714,17 +650,17 @@ public final class PromiseTest {
 
     private static void lossShare() {
         ShipLanterns ship = planned("0#0,2;0#1,7");
-        CHECK.dueDouble("lossShare() at first", ship.lossShare(), 0.0);
+        check.dueDouble("lossShare() at first", ship.lossShare(), 0.0);
         ship.burn(10);
-        CHECK.dueDouble("lossShare() of losses alone", ship.lossShare(), 1.0);
+        check.dueDouble("lossShare() of losses alone", ship.lossShare(), 1.0);
         ship.hang(0, 7, true);
         ship.burn(10);
-        CHECK.dueDouble("lossShare()", ship.lossShare(), 40.0 / 110.0);
+        check.dueDouble("lossShare()", ship.lossShare(), 40.0 / 110.0);
         ship.undo();
-        CHECK.dueDouble("lossShare() behind undo()", ship.lossShare(), 1.0);
+        check.dueDouble("lossShare() behind undo()", ship.lossShare(), 1.0);
         ShipLanterns tight = planned("0*3");
         tight.burn(1);
-        CHECK.dueDouble("lossShare() without a loss", tight.lossShare(), 0.0);
+        check.dueDouble("lossShare() without a loss", tight.lossShare(), 0.0);
     }
 
     private static long hash(long... values) {
